@@ -748,8 +748,8 @@ public final class BoundariesTest {
     OneStrokes x = with("aa");
     due("corner 0", x.letter(0, 0, 3), 0);
     due("corner 3 is between end 3 and end 0", x.letter(0, 0, 6), 2);
-    due("no face of a corner -1: a place", x.letter(0, 0, 2), 0);
-    due("no face of a corner 4: the middle", x.letter(0, 0, 7), 100);
+    due("ahead of corner 0 letters that are between are told", x.letter(0, 0, 2), 0);
+    due("behind corner 3 the middle is told", x.letter(0, 0, 7), 100);
     due("beyond", x.letter(0, 0, 8), OUTSIDE);
   }
 
