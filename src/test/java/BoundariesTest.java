@@ -703,12 +703,14 @@ public final class BoundariesTest {
   private static void lawThree() {
     says(TERMS, "3 LETTERS can be put on two sides so that of two that are BETWEEN they are on unlike sides, if the number of LETTERS"
         + " BETWEEN with both is even, on the same, if it is odd.");
-    OneStrokes x = with("abcdbadc", "abcabc", "abcdeafcbedf", "abcdefbadcfe", "");
+    OneStrokes x = with("abcdbadc", "abcabc", "abcdeafcbedf", "abcdefbadcfe", "", "abcadebcfdef");
     due("unlike sides", x.word(0, 2), 0);
     due("the same side", x.word(1, 2), 0);
     due("no sides do", x.word(2, 2), 3);
     due("no sides do", x.word(3, 2), 3);
     due("no letters to put", x.word(4, 2), 0);
+    due("some on unlike sides, some on the same", x.word(5, 2), 0);
+    due("and so", with("abcdbefadcef").word(0, 2), 0);
   }
 
   private static void broken() {
@@ -757,22 +759,31 @@ public final class BoundariesTest {
   private static void sidesOfSteps() {
     says(TERMS, "A STEP has on its left the CORNER k where it leaves as END k, and the CORNER ahead of j in the round where it comes"
         + " as END j; on its right the CORNER ahead of k, and CORNER j.");
-    OneStrokes x = with("abcadcbd", SPIRAL);
-    x.draw(0);
-    x.signs(1, 170);
-    for (int t = 0; t < 2; t++) {
-      for (int c = 0; c < x.word(t, 0); c++) {
-        int end = (x.word(t, 3) >> c & 1) == 0 ? 1 : 3;
-        due("left less right of what leaves p", indexAt(x, t, c, 0) - indexAt(x, t, c, 3), 1);
-        due("left less right of what leaves q", indexAt(x, t, c, end) - indexAt(x, t, c, end - 1), 1);
-        due("left less right of what comes to p", indexAt(x, t, c, 1) - indexAt(x, t, c, 2), 1);
-        due("left less right of what comes to q", indexAt(x, t, c, (end + 1) % 4) - indexAt(x, t, c, (end + 2) % 4), 1);
-      }
+    String[] rows = {"aa", "aabb", "abba", "abcadcbd", "abcabcdefdef", SPIRAL, SEVEN, "abccbdeffedghhga", "abcdefghfedcbahg",
+        "afbecgdaebfdgc", "acbfcedgebfagd", "afbecadcegfbgd", "afbachdgebfdgehc", "afbgcbdaehfcgdhe", EIGHT_LOOPS};
+    for (String row : rows) {
+      OneStrokes x = with(row);
+      int drawn = x.draw(0);
+      dueSides(x);
+      int all = (1 << x.word(0, 0)) - 1;
+      x.signs(0, all - drawn);
+      dueSides(x);
     }
   }
 
-  private static int indexAt(OneStrokes x, int t, int c, int k) {
-    return x.face(t, x.letter(t, c, 3 + k), 2);
+  private static void dueSides(OneStrokes x) {
+    due("face 0", x.face(0, 0, 2), 100);
+    for (int c = 0; c < x.word(0, 0); c++) {
+      int end = (x.word(0, 3) >> c & 1) == 0 ? 1 : 3;
+      due("left less right of what leaves p", indexAt(x, c, 0) - indexAt(x, c, 3), 1);
+      due("left less right of what leaves q", indexAt(x, c, end) - indexAt(x, c, end - 1), 1);
+      due("left less right of what comes to p", indexAt(x, c, 1) - indexAt(x, c, 2), 1);
+      due("left less right of what comes to q", indexAt(x, c, (end + 1) % 4) - indexAt(x, c, (end + 2) % 4), 1);
+    }
+  }
+
+  private static int indexAt(OneStrokes x, int c, int k) {
+    return x.face(0, x.letter(0, c, 3 + k), 2);
   }
 
   private static void faces() {
@@ -1019,6 +1030,8 @@ public final class BoundariesTest {
     due("both beside one and the same place", x.unpoke(1, 0, 1), NOT);
     due("the last place and the first", x.unpoke(1, 0, 2), 1);
     due("one pair is not beside", x.unpoke(2, 0, 1), NOT);
+    due("both beside one and the same, the later place", x.unpoke(2, 2, 0), NOT);
+    due("and of it both are beside", x.unpoke(2, 0, 2), NOT);
     due("the other way round", x.unpoke(2, 1, 2), 1);
     for (int t = 3; t < 6; t++) {
       due("all letters of word " + t, x.unpoke(t, 1, 0), 0);
