@@ -6,7 +6,7 @@ public final class OneStrokes {
     public static final int NONE = -1, UNKNOWN = -1000000001, OUTSIDE = -1000000002, NOT = -1000000003, FULL = -1000000004;
 
     private static final int MOST_LETTERS = 8, MOST_PLACES = 16, MOST_CORNERS = 32, MOST_RINGS = 9;
-    private static final int MOST_WORDS = 6, MOST_TYPED = 20, MOST_ENTRIES = 20, MOST_UNDONE = 16, IMAGE_COUNT = 2;
+    private static final int MOST_WORDS = 6, MOST_TYPED = 20, MOST_ENTRIES = 20, MOST_UNDONE = 16;
     private static final int MOST_SIGN = 255, NO_FAULT = 0, FAULTS_BELOW = -10, INDEX_SHIFT = 100;
 
     private final Shelf shelf = new Shelf();
@@ -333,7 +333,7 @@ public final class OneStrokes {
     }
 
     public int keep(int i) {
-        if (i < 0 || i >= IMAGE_COUNT) {
+        if (i < 0 || i >= images.length) {
             return UNKNOWN;
         }
         images[i].store(shelf, draws.current());
@@ -342,7 +342,7 @@ public final class OneStrokes {
     }
 
     public int goBack(int i) {
-        if (i < 0 || i >= IMAGE_COUNT) {
+        if (i < 0 || i >= images.length) {
             return UNKNOWN;
         }
         if (!images[i].isKept()) {
@@ -976,20 +976,27 @@ public final class OneStrokes {
 
         private void findIndexes() {
             boolean[] known = new boolean[count];
-            known[0] = true;
+            if (hasFace(0)) {
+                known[0] = true;
+            }
             // Each round comes at least one face further, so as many rounds as faces reach all.
             for (int round = 0; round < count; round++) {
                 for (int step = 0; step < leftOfStep.length; step++) {
-                    int left = leftOfStep[step];
-                    int right = rightOfStep[step];
-                    if (known[left] && !known[right]) {
-                        indexes[right] = indexes[left] - 1;
-                        known[right] = true;
-                    } else if (known[right] && !known[left]) {
-                        indexes[left] = indexes[right] + 1;
-                        known[left] = true;
-                    }
+                    findIndexAcross(leftOfStep[step], rightOfStep[step], known);
                 }
+            }
+        }
+
+        private void findIndexAcross(int left, int right, boolean[] known) {
+            if (!hasFace(left) || !hasFace(right)) {
+                return;
+            }
+            if (known[left] && !known[right]) {
+                indexes[right] = indexes[left] - 1;
+                known[right] = true;
+            } else if (known[right] && !known[left]) {
+                indexes[left] = indexes[right] + 1;
+                known[left] = true;
             }
         }
 
