@@ -113,7 +113,8 @@ public final class ReadmeTest {
   }
 
   private static Path copyOfSources() throws IOException {
-    Path room = Files.createTempDirectory("readme");
+    // Where mktemp makes its own, too, as in .ci/run.
+    Path room = Files.createTempDirectory(Path.of(System.getenv().getOrDefault("TMPDIR", "/tmp")), "readme");
     for (Path from : below(SOURCES)) Files.copy(from, room.resolve(from.toString()));
     return room;
   }
