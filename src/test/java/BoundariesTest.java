@@ -682,6 +682,12 @@ public final class BoundariesTest {
     due("eight in one", y.word(0, 1), 1);
     due("seven and one", y.word(1, 1), 2);
     due("each within another", y.word(2, 1), 8);
+    for (int c = 0; c < 7; c++) due("letters " + c + " and the next, six alone", with(twoAmongLoops(c)).word(0, 1), 7);
+  }
+
+  /** Of eight letters one and the next are between, the others are loops. */
+  private static String twoAmongLoops(int c) {
+    return EIGHT_LOOPS.substring(0, 2 * c) + "xyxy" + EIGHT_LOOPS.substring(2 * c + 4);
   }
 
   private static void lawOne() {
@@ -689,6 +695,7 @@ public final class BoundariesTest {
     OneStrokes x = with("aabb", "abab", "abcabc", "abcdabcd", "abcdeabcde", "abcabcdede");
     int[] wants = {0, 1, 0, 1, 0, 1};
     for (int t = 0; t < 6; t++) due("with " + Integer.bitCount(x.letter(t, 0, 2)), x.word(t, 2), wants[t]);
+    for (int c = 0; c < 7; c++) due("letters " + c + " and the next with one", with(twoAmongLoops(c)).word(0, 2), 1);
   }
 
   private static void lawTwo() {
@@ -698,6 +705,8 @@ public final class BoundariesTest {
     due("one with both", x.word(1, 2), 2);
     due("two with both", x.word(2, 2), 0);
     due("one with both of two that are", x.word(3, 2), 0);
+    String[] late = {"aabbcdefgcfgde", "aabbccdefdeghfgh", "aabbccdefghdghef"};
+    for (String row : late) due("one with both of late letters alone, " + row, with(row).word(0, 2), 2);
   }
 
   private static void lawThree() {
@@ -711,6 +720,8 @@ public final class BoundariesTest {
     due("no letters to put", x.word(4, 2), 0);
     due("some on unlike sides, some on the same", x.word(5, 2), 0);
     due("and so", with("abcdbefadcef").word(0, 2), 0);
+    String[] late = {"aabcdefgcbedgf", "aabbcdefgchedgfh", "aabbcdefghdcfehg"};
+    for (String row : late) due("no sides do for late letters, " + row, with(row).word(0, 2), 3);
   }
 
   private static void broken() {
@@ -799,6 +810,9 @@ public final class BoundariesTest {
     due("no face 1 of 1", x.face(1, 1, 0), UNKNOWN);
     dueFacesOfCorners(x, 2, 0, 0, 1, 0, 2);
     dueFacesOfCorners(x, 2, 1, 2, 0, 2, 3);
+    OneStrokes y = with("abcdefagefdchbhg", "abcdefgedcfbag");
+    due("joined by way of many others", y.signs(0, 186), 4);
+    due("joined by way of many others", y.signs(1, 80), 3);
   }
 
   private static void facesWithoutLetters() {
@@ -869,6 +883,16 @@ public final class BoundariesTest {
     x.signs(0, 255);
     for (int f = 0; f < 10; f++) due("going up, face " + f, x.face(0, f, 2), 100 + up[f]);
     due("not plane", x.face(1, 0, 2), NONE);
+    // Going along the stroke, faces are met here whose neighbours come but later, once, and once more.
+    indexesOf("abccdabd", 2);
+    indexesOf("abcddefcefgabg", 18);
+    indexesOf("aabcddefcefghbgh", 80);
+  }
+
+  private static void indexesOf(String row, int set) {
+    OneStrokes x = with(row);
+    due("plane by " + set, x.signs(0, set), row.length() / 2 + 2);
+    dueSides(x);
   }
 
   private static void dark() {
@@ -940,6 +964,9 @@ public final class BoundariesTest {
     due("one ring, none turned", x.rings(2, 0), 1);
     due("all turned", x.rings(2, 255), 8);
     due("beyond", x.rings(2, 256), UNKNOWN);
+    OneStrokes y = with("abcdefdgaefchbgh", "abcdefeadggbhfch");
+    due("joined by way of many others", y.rings(0, 226), 1);
+    due("joined by way of many others", y.rings(1, 176), 2);
   }
 
   private static void ringsWithoutLetters() {
@@ -1054,6 +1081,9 @@ public final class BoundariesTest {
     due("pairs behind one another", x.slide(4, 0, 1, 2), 1);
     dueRow(x, 4, "abcbca");
     due("there are no three", x.slide(5, 0, 1, 2), UNKNOWN);
+    OneStrokes y = with("aabbccddeefghfgh");
+    due("the last three of eight", y.slide(0, 5, 6, 7), 1);
+    dueRow(y, 0, "aabbccddeefgghhf");
     eachChoiceOfASlide();
   }
 
@@ -1106,6 +1136,11 @@ public final class BoundariesTest {
     due("the last letter of eight", x.smooth(5, 7), 7);
     dueRow(x, 5, "abcdefggfedcba");
     due("no letter 7 of 7", x.smooth(5, 7), UNKNOWN);
+    OneStrokes y = with("abbcdcedfgfehgha", "abbcdcedfgfehgah");
+    due("all fourteen between", y.smooth(0, 0), 7);
+    dueRow(y, 0, "abacdbdecfefgg");
+    due("thirteen between", y.smooth(1, 0), 7);
+    dueRow(y, 1, "abcdadecfefggb");
   }
 
   private static void theSum() {
@@ -1312,6 +1347,24 @@ public final class BoundariesTest {
     }
     whatStaysWhenUndone();
     againAndAgainUndone();
+    fullShelfIsBack();
+  }
+
+  private static void fullShelfIsBack() {
+    String[] rows = {"aa", "abab", "abcabc", "abcdabcd", "abcdeabcde", "abcdefabcdef"};
+    for (int t = 0; t < 6; t++) {
+      OneStrokes x = with(rows);
+      x.keep(1);
+      x.take(t);
+      type(x, "");
+      for (int i = 0; i < 6; i++) x.twist(i, 0);
+      due("eight deeds undone", x.undo(8), 6);
+      for (int i = 0; i < 6; i++) dueRow(x, i, rows[i]);
+      x.take(t);
+      type(x, "");
+      due("the image", x.goBack(1), 1);
+      for (int i = 0; i < 6; i++) dueRow(x, i, rows[i]);
+    }
   }
 
   private static void eachKindOfDeed(int kind) {
@@ -1545,6 +1598,13 @@ public final class BoundariesTest {
     due("the seed", x.told(6), MOST);
     OneStrokes y = with("", "aa", "aabb", "abab", "aabbcc", "abcabc");
     due("all six are unlike", y.told(1), 6);
+    for (int t = 0; t < 6; t++) for (int u = 0; u < t; u++) dueUnlike(t, u);
+  }
+
+  private static void dueUnlike(int t, int u) {
+    String[] rows = {"", "aa", "aabb", "abab", "aabbcc", "abcabc"};
+    rows[t] = rows[u];
+    due("but words " + u + " and " + t, with(rows).told(1), 5);
   }
 
   private static void toldRefused() {
@@ -2068,6 +2128,7 @@ public final class BoundariesTest {
     due("8 letters", x.sum(2, 2), 3);
     dueRow(x, 3, "ababcdcdefefghgh");
     due("8 letters and none", x.sum(3, 1), 4);
+    dueRow(x, 4, "ababcdcdefefghgh");
     due("none and 8 letters", x.sum(1, 3), 5);
     dueRow(x, 5, "ababcdcdefefghgh");
     due("what it is made of stays", x.word(0, 3), 3);
